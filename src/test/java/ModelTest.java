@@ -1,0 +1,211 @@
+import java.util.Random;
+
+/** Runs of calls from fixed seeds, on the class and on its model. */
+public final class ModelTest {
+    private ModelTest() {
+    }
+
+    /** All that can be asked of the present grammar, from one below to one above what there is. */
+    private static void askAll(Both both, Random random) {
+        for (int what = -1; what <= 11; what++) {
+            both.call(5, what, 0, 0, 0);
+        }
+        int rules = both.model.many(0);
+        int pairs = both.model.many(8);
+        int cover = both.model.many(9);
+        for (int s = -1; s <= 8; s++) {
+            for (int what = -1; what <= 6; what++) {
+                both.call(8, s, what, 0, 0);
+                both.call(10, s, what, 0, 0);
+                both.call(12, s, what, 0, 0);
+            }
+            for (int i = -1; i <= 6; i++) {
+                both.call(11, s, i, 0, 0);
+                both.call(13, s, i, 0, 0);
+                both.call(13, s, i, 1, 0);
+            }
+            for (int l = -1; l <= 16; l++) {
+                both.call(21, s, l, 0, 0);
+            }
+        }
+        for (int l = -2; l <= 16; l++) {
+            both.call(9, l, 0, 0, 0);
+        }
+        for (int r = -1; r <= rules; r++) {
+            for (int i = -1; i <= 4; i++) {
+                both.call(6, r, i, 0, 0);
+                both.call(7, r, i, 0, 0);
+            }
+        }
+        for (int p = -1; p <= pairs; p += pairs > 200 ? 1 + random.nextInt(9) : 1) {
+            for (int what = -1; what <= 6; what++) {
+                both.call(14, p, what, 0, 0);
+            }
+            both.call(15, p, random.nextInt(20) - 1, 0, 0);
+            both.call(17, p, random.nextInt(pairs + 2) - 1, 0, 0);
+            both.call(17, random.nextInt(pairs + 2) - 1, p, 0, 0);
+            both.call(19, p, 0, 0, 0);
+        }
+        for (int i = 0; i < 60; i++) {
+            both.call(16, random.nextInt(18) - 1, random.nextInt(6) - 1, random.nextInt(18) - 1, 0);
+        }
+        for (int k = -1; k <= cover; k += cover > 100 ? 1 + random.nextInt(9) : 1) {
+            for (int what = -1; what <= 5; what++) {
+                both.call(18, k, what, 0, 0);
+            }
+            for (int i = 0; i < 8; i++) {
+                both.call(20, k, random.nextInt(40) - 1, random.nextInt(4) - 1, 0);
+            }
+        }
+        both.call(22, 0, 0, 0, 0);
+        both.call(23, 0, 0, 0, 0);
+        askTrees(both, random);
+        askTexts(both, random);
+    }
+
+    private static void askTrees(Both both, Random random) {
+        for (int i = 0; i < 25; i++) {
+            both.call(24, random.nextInt(10) - 1, random.nextInt(27) - 1, 0, 0);
+        }
+        for (int i = 0; i < 25; i++) {
+            int symbol = random.nextInt(8);
+            int n = 1 + random.nextInt(24);
+            long trees = both.model.trees(symbol, n);
+            int most = (int) Math.min(Math.max(trees, 0), Integer.MAX_VALUE - 1);
+            int number = random.nextInt(most + 1) + random.nextInt(2);
+            for (int k = 0; k < 6; k++) {
+                both.call(25, symbol, n, number, random.nextInt(n + 2) - 1);
+                both.call(26, symbol, n, number, random.nextInt(2 * n + 2) - 1);
+            }
+        }
+    }
+
+    /** Texts: trees that the model made, with and without a letter changed, and letters as they come. */
+    private static void askTexts(Both both, Random random) {
+        for (int i = 0; i < 12; i++) {
+            int n = 1 + random.nextInt(16);
+            int[] letters = new int[16];
+            int start = both.model.many(2);
+            long trees = Math.max(both.model.trees(start, n), 0);
+            int number = random.nextInt((int) Math.min(trees, 1000000000L) + 1);
+            for (int at = 0; at < n; at++) {
+                int letter = both.model.tree(start, n, number, at);
+                letters[at] = letter == SentenceMaker.NONE ? random.nextInt(4) : letter;
+            }
+            if (random.nextInt(4) == 0) {
+                letters[random.nextInt(n)] = random.nextInt(16);
+            }
+            both.put(letters, n);
+            int most = random.nextInt(5) == 0 ? 1 + random.nextInt(17) : n;
+            for (int which = 27; which <= 29; which++) {
+                both.call(which, most, 0, 0, 0);
+            }
+            for (int k = 0; k < 6; k++) {
+                both.call(30, most, random.nextInt(12) - 1, 0, 0);
+            }
+            for (int k = 0; k < 3; k++) {
+                int rule = random.nextInt(18) - 1;
+                both.call(31, most, rule, 0, 0);
+                both.call(32, most, rule, random.nextInt(8) - 1, 0);
+                both.call(32, most, rule, random.nextInt(8) - 1, 0);
+            }
+            both.call(28, n, 0, 0, 0);
+            both.call(29, n, 0, 0, 0);
+        }
+    }
+
+    private static void changeOne(Both both, Random random) {
+        switch (random.nextInt(5)) {
+            case 0:
+                both.call(2, random.nextInt(18) - 1, random.nextInt(12) - 1, 0, 0);
+                break;
+            case 1:
+                both.call(3, random.nextInt(10) - 1, 0, 0, 0);
+                break;
+            case 2:
+                both.call(4, 0, 0, 0, 0);
+                break;
+            default:
+                both.call(1, random.nextInt(18) - 1, random.nextInt(3) == 0 ? 1 : 0, 0, 0);
+                break;
+        }
+    }
+
+    private static void wholeGrammars(Check check, int from, int to) {
+        for (int seed = from; seed < to; seed++) {
+            Random random = new Random(seed);
+            Both both = new Both(check, "grammar " + seed);
+            for (int i = 0; i < 4 && both.model.state.rules.isEmpty(); i++) {
+                both.load(Grammars.make(random));
+            }
+            askAll(both, random);
+            for (int i = 0; i < 2; i++) {
+                changeOne(both, random);
+                changeOne(both, random);
+                askAll(both, random);
+            }
+        }
+    }
+
+    private static void faults(Check check, int from, int to) {
+        for (int seed = from; seed < to; seed++) {
+            Random random = new Random(seed);
+            Both both = new Both(check, "fault " + seed);
+            for (int i = 0; i < 20; i++) {
+                String text = Grammars.make(random);
+                int times = random.nextInt(3);
+                for (int k = 0; k < times; k++) {
+                    text = Grammars.spoil(random, text);
+                }
+                if (text.length() <= 400) {
+                    both.load(text);
+                }
+                both.call(5, random.nextInt(4), 0, 0, 0);
+                both.call(5, 10, 0, 0, 0);
+            }
+        }
+    }
+
+    private static int someNumber(Random random) {
+        switch (random.nextInt(12)) {
+            case 0:
+                return random.nextInt(30) - 3;
+            case 1:
+                return random.nextInt();
+            default:
+                return random.nextInt(9) - 1;
+        }
+    }
+
+    /** Calls in no order at all, changes among them, up to the 512 that an object is used for. */
+    private static void mixedRuns(Check check, int from, int to) {
+        for (int seed = from; seed < to; seed++) {
+            Random random = new Random(seed);
+            Both both = new Both(check, "mixed " + seed);
+            both.load(Grammars.make(random));
+            for (int i = 0; i < 440; i++) {
+                int which = random.nextInt(Both.CALLS + 4);
+                if (which >= Both.CALLS) {
+                    int n = 1 + random.nextInt(16);
+                    int[] letters = new int[n];
+                    for (int k = 0; k < n; k++) {
+                        letters[k] = random.nextInt(3);
+                    }
+                    both.put(letters, n);
+                } else if (which > 4 || random.nextInt(4) == 0) {
+                    both.call(which, someNumber(random), someNumber(random), someNumber(random), someNumber(random));
+                }
+            }
+        }
+    }
+
+    public static void main(String[] args) {
+        int scale = args.length > 0 ? Integer.parseInt(args[0]) : 1;
+        int base = args.length > 1 ? Integer.parseInt(args[1]) : 0;
+        Check check = new Check();
+        faults(check, base, base + 200 * scale);
+        wholeGrammars(check, base, base + 150 * scale);
+        mixedRuns(check, base, base + 150 * scale);
+        check.close("ModelTest");
+    }
+}
