@@ -1406,6 +1406,9 @@ public final class SentenceMaker {
         private int frameCount;
         private final long[] frames = new long[FRAMES * WORDS];
         private final long[] rows = new long[MOST_RULES * WORDS];
+        /** The same the other way about: of a pair the frames and the rows that have it, as bits. */
+        private final long[] framesHaving = new long[MOST_PAIRS];
+        private final int[] rowsHaving = new int[MOST_PAIRS];
         private final Letters sentence = new Letters();
         private int spelled = NONE;
 
@@ -1424,6 +1427,7 @@ public final class SentenceMaker {
             words = count + 63 >> 6;
             fillRows();
             fillFrames();
+            turnAbout();
         }
 
         int firstRule(int pair) {
@@ -1553,76 +1557,100 @@ public final class SentenceMaker {
             }
         }
 
-        private static boolean isBit(long[] set, int base, int pair) {
-            return (set[base + (pair >> 6)] >>> (pair & 63) & 1L) != 0;
+        private void turnAbout() {
+            Arrays.fill(framesHaving, 0, count, 0L);
+            Arrays.fill(rowsHaving, 0, count, 0);
+            for (int i = 0; i < frameCount; i++) {
+                int frame = filledFrames[i];
+                for (int w = 0; w < words; w++) {
+                    long word = frames[frame * WORDS + w];
+                    for (int left = Long.bitCount(word); left > 0; left--) {
+                        framesHaving[(w << 6) + Long.numberOfTrailingZeros(word)] |= 1L << frame;
+                        word &= word - 1;
+                    }
+                }
+            }
+            for (int rule = 0; rule < grammar.count; rule++) {
+                for (int w = 0; w < words; w++) {
+                    long word = rows[rule * WORDS + w];
+                    for (int left = Long.bitCount(word); left > 0; left--) {
+                        rowsHaving[(w << 6) + Long.numberOfTrailingZeros(word)] |= 1 << rule;
+                        word &= word - 1;
+                    }
+                }
+            }
         }
 
-        /** A word of the set of pairs that a pair's sentence has. */
-        private long hadWord(int pair, int w) {
-            long self = pair >> 6 == w ? 1L << (pair & 63) : 0L;
-            return frames[frameOf(pair) * WORDS + w] | rows[secondRule(pair) * WORDS + w] | self;
+        /** Whether a pair is in a sentence about or below the place where that sentence's own pair was put. */
+        private boolean isAround(int pair, int other) {
+            return (framesHaving[other] >>> frameOf(pair) & 1L) != 0
+                    || (rowsHaving[other] >> secondRule(pair) & 1) != 0;
         }
 
         boolean includes(int pair, int other) {
-            return (hadWord(pair, other >> 6) >>> (other & 63) & 1L) != 0;
+            return pair == other || isAround(pair, other);
         }
 
         int countHad(int pair) {
-            int found = 0;
+            int frame = frameOf(pair) * WORDS;
+            int row = secondRule(pair) * WORDS;
+            int found = isAround(pair, pair) ? 0 : 1;
             for (int w = 0; w < words; w++) {
-                found += Long.bitCount(hadWord(pair, w));
+                found += Long.bitCount(frames[frame + w] | rows[row + w]);
             }
             return found;
         }
 
-        /** Lists what a pair's sentence has; says how many. */
+        /** Lists what a pair's sentence has, in no order; says how many. */
         int listHad(int pair, int[] out) {
+            int frame = frameOf(pair) * WORDS;
+            int row = secondRule(pair) * WORDS;
             int found = 0;
             for (int w = 0; w < words; w++) {
-                long word = hadWord(pair, w);
+                long word = frames[frame + w] | rows[row + w];
                 for (int left = Long.bitCount(word); left > 0 && found < out.length; left--) {
                     out[found] = (w << 6) + Long.numberOfTrailingZeros(word);
                     found++;
                     word &= word - 1;
                 }
             }
-            return found;
+            return isAround(pair, pair) ? found : listOne(pair, out, found);
         }
 
+        private static int listOne(int pair, int[] out, int found) {
+            if (found >= out.length) {
+                return found;
+            }
+            out[found] = pair;
+            return found + 1;
+        }
+
+        /** Adds what a pair's sentence has to a set. */
         void addHad(int pair, long[] set) {
+            int frame = frameOf(pair) * WORDS;
+            int row = secondRule(pair) * WORDS;
             for (int w = 0; w < words && w < set.length; w++) {
-                set[w] |= hadWord(pair, w);
+                set[w] |= frames[frame + w] | rows[row + w];
             }
-        }
-
-        private int rowsHaving(int pair) {
-            int found = 0;
-            for (int rule = 0; rule < grammar.count; rule++) {
-                if (isBit(rows, rule * WORDS, pair)) {
-                    found |= 1 << rule;
-                }
-            }
-            return found;
+            addBit(set, 0, pair);
         }
 
         /** Lists the pairs whose sentences have a pair, in no order; says how many. */
         int listHolders(int pair, int[] out) {
-            int having = rowsHaving(pair);
-            int own = frameOf(pair);
+            long whole = framesHaving[pair];
+            int seconds = rowsHaving[pair];
             int found = 0;
-            for (int i = 0; i < frameCount; i++) {
+            for (int i = 0; i < frameCount && (whole != 0 || seconds != 0); i++) {
                 int frame = filledFrames[i];
-                if (isBit(frames, frame * WORDS, pair)) {
-                    for (int p = frameFirsts[frame]; p < frameFirsts[frame + 1] && found < out.length; p++) {
-                        out[found] = p;
-                        found++;
+                if ((whole >>> frame & 1L) != 0) {
+                    for (int p = frameFirsts[frame]; p < frameFirsts[frame + 1]; p++) {
+                        found = listOne(p, out, found);
                     }
-                } else {
-                    int seconds = frame == own ? having | 1 << secondRule(pair) : having;
+                } else if (seconds != 0) {
                     found = listSeconds(frame, seconds, out, found);
                 }
             }
-            return found;
+            return isAround(pair, pair) ? found : listOne(pair, out, found);
         }
 
         private int listSeconds(int frame, int seconds, int[] out, int from) {
@@ -1631,10 +1659,7 @@ public final class SentenceMaker {
             for (int left = Integer.bitCount(seconds); left > 0; left--) {
                 int number = numbers[frame * MOST_RULES + Integer.numberOfTrailingZeros(rest)];
                 rest &= rest - 1;
-                if (number != NONE && found < out.length) {
-                    out[found] = number;
-                    found++;
-                }
+                found = number == NONE ? found : listOne(number, out, found);
             }
             return found;
         }

@@ -28,8 +28,9 @@ final class Feeder {
         }
     }
 
-    /** Feeds a text and loads just that. */
+    /** Loads just a text, whatever was on the tape. */
     static int load(SentenceMaker maker, String text) {
+        maker.drop(maker.drop(0));
         feed(maker, text);
         return maker.load(text.length());
     }
@@ -42,11 +43,7 @@ final class Feeder {
 
     /** Puts a text on an empty tape: all that is there goes first, and so do the bytes behind the text. */
     static void put(SentenceMaker maker, String text) {
-        for (int i = 0; i < 400; i++) {
-            if (maker.drop(1) == SentenceMaker.NONE) {
-                break;
-            }
-        }
+        maker.drop(maker.drop(0));
         feed(maker, text);
         maker.drop((20 - text.length() % 20) % 20);
     }

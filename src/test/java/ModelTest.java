@@ -147,6 +147,66 @@ public final class ModelTest {
         }
     }
 
+    /** Grammars that go to the edges: costs about 200, counts above what is told, most pairs, long chains. */
+    private static final String[] SPECIAL = {
+        "A=AAAA|AAAA|AAAA|AAAA|AAAA|AAAA|AAAA|AAAA|AAAA|AAAA|AAAA|AAAA|AAAA|AAAA|AAAA|a;",
+        "A=AA|a|a|a|a|a|a|b|b|b|b|b|b|b|b|b;",
+        "A=AA|AAA|AAAA|a|b;",
+        "A=B|aH;B=C|bA;C=D|cB;D=E|dC;E=F|eD;F=G|fE;G=H|gF;H=h|pG;",
+        "A=B:0|HH:0;B=C:0|b:9;C=D:0|c:9;D=E:0|d:9;E=F:0|e:9;F=G:0|f:9;G=H:0|g:9;H=h:0|AA:0;",
+        "A=BBBB:0|a;B=CCCC:0|b:0;C=DDDD:0|c;D=dd:1|AAAA:9;",
+        "A=BBBB:0;B=CCCC:0;C=aaaa:8;",
+        "A=BBBB:8;B=CCCC:0;C=aaaa:8;",
+        "A=BBBB:9;B=CCCC:0;C=aaaa:8|aa:9;",
+        "A=BBB:9|aC;B=CCCC:7|Bb;C=DDDD:5|cC;D=aaaa:9|Ba;E=ABCD|e;",
+        "A=BCDE|aAb;B=CDEF|b;C=DEFG|c;D=EFGH|d;E=FGHA|e;F=GHAB|f;G=HABC|g;H=ABCD|h;",
+        "A=BCDE:9|p;B=CDEF:9;C=DEFG:9;D=EFGH:9;E=FGHH:9;F=GGHH:9;G=HHHH:9;H=a:9|hh:9;",
+        "A=BB:0;B=CC:0;C=DD:0;D=EE:0;E=FF:0;F=GG:0;G=HH:0;H=a:0;",
+        "A=BB:1;B=CC:1;C=DD:1;D=EE:1;E=FF:1;F=GG:1;G=HH:1;H=a:0|A;",
+        "A=aAa|bAb|cAc|aa|bb|cc|AA;",
+        "A=aB|bB|cB|dB|C;B=eC|fC|gC|hC|A;C=iA|jA|kA|lA|m|n;",
+        "A=BC;B=b|bB|BbB|CC;C=c|cC|B|CcB|Bc;D=A|BD|DD|d|dA|DC;",
+        "A=aA:9|bA:9|cA:9|d:9;",
+        "A=Ba|Ab;B=Bb|Aa;C=c|Ac|CA|CC;",
+        "H=Hp|p|oH|o;",
+    };
+
+    private static void specialGrammars(Check check, int rounds) {
+        for (int g = 0; g < SPECIAL.length; g++) {
+            Random random = new Random(g);
+            Both both = new Both(check, "special " + g);
+            both.load(SPECIAL[g]);
+            askAll(both, random);
+            for (int i = 0; i < rounds; i++) {
+                changeOne(both, random);
+                changeOne(both, random);
+                askAll(both, random);
+            }
+        }
+    }
+
+    private static final int[] EXTREMES = {Integer.MIN_VALUE, Integer.MIN_VALUE + 1, -65536, -17, -1, 0, 1, 2, 3, 4,
+        5, 7, 8, 15, 16, 17, 23, 24, 25, 63, 64, 255, 256, 399, 400, 401, 1023, 1024, 65536, Integer.MAX_VALUE - 20,
+        Integer.MAX_VALUE - 1, Integer.MAX_VALUE};
+
+    /** Every call with numbers far out, on a new object and on one that has a grammar. */
+    private static void extremes(Check check) {
+        for (int seed = 0; seed < 60; seed++) {
+            Random random = new Random(seed);
+            Both both = new Both(check, "extremes " + seed);
+            if (seed % 3 != 0) {
+                both.load(SPECIAL[seed % SPECIAL.length]);
+            }
+            for (int which = 0; which < Both.CALLS; which++) {
+                for (int i = 0; i < 12; i++) {
+                    both.call(which, EXTREMES[random.nextInt(EXTREMES.length)],
+                            EXTREMES[random.nextInt(EXTREMES.length)], EXTREMES[random.nextInt(EXTREMES.length)],
+                            EXTREMES[random.nextInt(EXTREMES.length)]);
+                }
+            }
+        }
+    }
+
     private static void faults(Check check, int from, int to) {
         for (int seed = from; seed < to; seed++) {
             Random random = new Random(seed);
@@ -206,6 +266,8 @@ public final class ModelTest {
         faults(check, base, base + 200 * scale);
         wholeGrammars(check, base, base + 150 * scale);
         mixedRuns(check, base, base + 150 * scale);
+        specialGrammars(check, 3 * scale);
+        extremes(check);
         check.close("ModelTest");
     }
 }
