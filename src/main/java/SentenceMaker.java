@@ -2130,7 +2130,6 @@ public final class SentenceMaker {
                 madeAt = grammar.version;
                 listSteps();
                 filled = 0;
-                size = 0;
             }
             int kept = 0;
             while (kept < n && kept < filled && text[kept] == letters[kept] - base) {

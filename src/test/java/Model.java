@@ -580,7 +580,7 @@ final class Model {
         }
     }
 
-    private List<Integer> rulesOf(Tree tree) {
+    List<Integer> rulesOf(Tree tree) {
         List<Integer> out = new ArrayList<>();
         listRules(tree, out);
         return out;
@@ -597,7 +597,7 @@ final class Model {
         }
     }
 
-    private List<Integer> lettersOf(Tree tree) {
+    List<Integer> lettersOf(Tree tree) {
         List<Integer> out = new ArrayList<>();
         listLetters(tree, out);
         return out;

@@ -1,3 +1,4 @@
+import java.util.List;
 import java.util.Random;
 
 /** Runs of calls from fixed seeds, on the class and on its model. */
@@ -207,6 +208,100 @@ public final class ModelTest {
         }
     }
 
+    /** Trees made one by one, in the order of the document, and each text's own tree found again by its number. */
+    private static void enumerated(Check check, int from, int to) {
+        for (int seed = from; seed < to; seed++) {
+            Random random = new Random(seed);
+            String text = Grammars.make(random);
+            SentenceMaker maker = Feeder.loaded(text);
+            Model model = new Model();
+            for (int at = 0; at < text.length(); at += 20) {
+                int[] bytes = Feeder.bytes(text);
+                model.feed(Feeder.word(bytes, at), Feeder.word(bytes, at + 4), Feeder.word(bytes, at + 8),
+                        Feeder.word(bytes, at + 12), Feeder.word(bytes, at + 16));
+            }
+            model.load(text.length());
+            int start = model.state.start;
+            for (int n = 1; n <= 7; n++) {
+                for (int symbol = 0; symbol < 8; symbol++) {
+                    long trees = model.trees(symbol, n);
+                    if (trees > 0 && trees <= 200) {
+                        sameTrees(check, text, maker, symbol, n, model.allTrees(symbol, n), model);
+                    }
+                }
+                if (model.trees(start, n) > 0) {
+                    foundAgain(check, text, maker, start, n);
+                }
+            }
+        }
+    }
+
+    private static void sameTrees(Check check, String text, SentenceMaker maker, int symbol, int n,
+            List<Model.Tree> all, Model model) {
+        check.due(text + " trees " + symbol + " " + n, maker.trees(symbol, n), all.size());
+        for (int i = 0; i < all.size(); i++) {
+            List<Integer> letters = model.lettersOf(all.get(i));
+            List<Integer> rules = model.rulesOf(all.get(i));
+            for (int at = 0; at < letters.size(); at++) {
+                check.due(text + " tree " + symbol + " " + n + " " + i + " " + at, maker.tree(symbol, n, i, at),
+                        letters.get(at));
+            }
+            for (int k = 0; k < rules.size(); k++) {
+                check.due(text + " treeRule " + symbol + " " + n + " " + i + " " + k,
+                        maker.treeRule(symbol, n, i, k), rules.get(k));
+            }
+            check.due(text + " rules end", maker.treeRule(symbol, n, i, rules.size()), SentenceMaker.NONE);
+        }
+    }
+
+    /** The own tree has the number by which it is told, and it is the one of that number. */
+    private static void foundAgain(Check check, String text, SentenceMaker maker, int start, int n) {
+        long trees = Math.min(maker.trees(start, n), 20);
+        for (int i = 0; i < trees; i++) {
+            StringBuilder made = new StringBuilder();
+            for (int at = 0; at < n; at++) {
+                made.append((char) ('a' + maker.tree(start, n, i, at)));
+            }
+            Feeder.put(maker, made.toString());
+            int number = (int) maker.number(n);
+            int rules = maker.parse(n);
+            check.holds(text + " " + made + " is a sentence", rules > 0 && maker.ways(n) > 0);
+            for (int k = 0; k <= rules; k++) {
+                check.due(text + " " + made + " rule " + k, maker.treeRule(start, n, number, k), maker.parsed(n, k));
+            }
+            for (int at = 0; at < n; at++) {
+                check.due(text + " " + made + " letter " + at, maker.tree(start, n, number, at),
+                        made.charAt(at) - 'a');
+            }
+        }
+    }
+
+    /** Short texts that are much like one another, longer and shorter, so that what is kept of one serves the next. */
+    private static void likeTexts(Check check, int from, int to) {
+        for (int seed = from; seed < to; seed++) {
+            Random random = new Random(seed);
+            Both both = new Both(check, "texts " + seed);
+            String[] grammars = {"A=AA|a|b|aAb|bAa|B;B=bb|aB|ba;", "A=aA|bB|a;B=bA|aB|b;", "A=aAa|bAb|a|b|AA;",
+                "A=BA|B;B=a|bb|aab;", "A=aAbA|ab|aAb|abA;"};
+            both.load(grammars[seed % grammars.length]);
+            int[] letters = new int[16];
+            for (int i = 0; i < 40; i++) {
+                int n = 1 + random.nextInt(7);
+                letters[random.nextInt(n)] = random.nextInt(2);
+                both.put(letters, n);
+                both.call(27 + random.nextInt(3), n, 0, 0, 0);
+                both.call(28, 1 + random.nextInt(n), 0, 0, 0);
+                both.call(30, n, random.nextInt(6), 0, 0);
+                int rule = random.nextInt(6);
+                both.call(31, n, rule, 0, 0);
+                both.call(32, n, rule, random.nextInt(4), 0);
+                if (random.nextInt(8) == 0) {
+                    changeOne(both, random);
+                }
+            }
+        }
+    }
+
     private static void faults(Check check, int from, int to) {
         for (int seed = from; seed < to; seed++) {
             Random random = new Random(seed);
@@ -268,6 +363,8 @@ public final class ModelTest {
         mixedRuns(check, base, base + 150 * scale);
         specialGrammars(check, 3 * scale);
         extremes(check);
+        likeTexts(check, base, base + 60 * scale);
+        enumerated(check, base, base + 100 * scale);
         check.close("ModelTest");
     }
 }

@@ -497,6 +497,13 @@ public final class PromisesTest {
         is("by the rule with the yield within", x.context(2, 0), 3);
         begin(17, "A=EEEE:9|a;E=DDDD:5|a;D=CC:0;C=b:2|B;B=BBBB|cccc:9;");
         is("within 200", x.context(2, 0), 9 + 3 * 2 + 5 + 3 * 6 + 3);
+        begin(17, "A=BC:8|a;B=DDDD:0;C=c;D=EEEE:0;E=aaaa:8;");
+        is("200", x.context(2, 0), 200);
+        is("its rules", x.context(2, 1), 1 + 1 + 4 + 16);
+        is("its letters", x.context(2, 2), 64);
+        x.weigh(0, 9);
+        no("201", x.context(2, 0), 6);
+        is("of another one", x.context(1, 0), 11);
     }
 
     private static void around() {
@@ -569,6 +576,11 @@ public final class PromisesTest {
             }
             no("shown(" + p + ", end)", x.shown(p, want[p].length()), 6);
         }
+        is("shown(0, 1)", x.shown(0, 1), 2);
+        x.turn(2, false);
+        is("shown(0, 1) of another grammar", x.shown(0, 1), 1);
+        x.undo();
+        is("shown(0, 1) again", x.shown(0, 1), 2);
         no("shown(4, 0)", x.shown(4, 0), 6);
         no("shown(-1, 0)", x.shown(-1, 0), 1);
         no("shown(0, -1)", x.shown(0, -1), 1);
@@ -769,6 +781,7 @@ public final class PromisesTest {
         is("tree(0, 24, 1, 23)", x.tree(0, 24, 1, 23), 1);
         is("tree(0, 24, 1, 22)", x.tree(0, 24, 1, 22), 0);
         is("tree(0, 24, huge, 0)", x.tree(0, 24, Integer.MAX_VALUE, 0), 0);
+        is("the first", x.tree(0, 2, 0, 0), 0);
         x.turn(1, false);
         is("only b", x.tree(0, 2, 0, 0), 1);
         no("one tree alone", x.tree(0, 2, 1, 0), 6);
@@ -948,6 +961,22 @@ public final class PromisesTest {
         no("off it is in no tree", x.shrink(5, 0), 5);
         x.undo();
         is("back again", x.shrink(5, 0), 3);
+        Feeder.load(x, "A=AbA|a|B;B=ba|bab;");
+        text("ababa");
+        is("by another grammar of as many rules and more", x.shrink(5, 0), 3);
+        Feeder.load(x, "A=aB;B=baba|bb;");
+        text("ababa");
+        is("by a third one", x.shrink(5, 0), 5);
+        x.weigh(0, 5);
+        is("weights change nothing", x.shrink(5, 0), 5);
+        Feeder.load(x, "A=aB|bB;B=baba|ba;");
+        text("ababa");
+        is("it gets shorter", x.shrink(5, 0), 3);
+        x.turn(3, false);
+        is("but not without B=ba", x.shrink(5, 0), 5);
+        text("bbaba");
+        no("nor if only its first letter is another one", x.shrink(5, 0), 5);
+        is("by the other rule", x.shrink(5, 1), 5);
     }
 
     private static void shrunk() {
