@@ -649,7 +649,23 @@ final class Model {
                 }
             }
         }
+        // a tree may still hold what was a yield before one as good by a lesser rule was found: made anew from the top
+        Tree[] found = yields;
+        yields = new Tree[8];
+        for (int s = 0; s < 8; s++) {
+            yields[s] = found[s] == null ? null : madeAnew(found, s);
+        }
         return yields;
+    }
+
+    private Tree madeAnew(Tree[] found, int symbol) {
+        int number = found[symbol].rule;
+        int[] signs = state.rules.get(number).signs;
+        Tree[] parts = new Tree[signs.length];
+        for (int k = 0; k < signs.length; k++) {
+            parts[k] = signs[k] < 16 ? madeAnew(found, signs[k]) : null;
+        }
+        return new Tree(number, parts);
     }
 
     private Context[] contexts() {

@@ -455,6 +455,10 @@ public final class PromisesTest {
         no("yielded(0, huge)", x.yielded(0, Integer.MAX_VALUE), 6);
         x.turn(3, false);
         no("no yield", x.yielded(0, 0), 6);
+        // B=C and B=D are as good, and B=D is the first that can be seen to be
+        begin(16, "A=B;F=d:0;D=F;B=C|D;C=E;E=c:0;");
+        is("B by the least rule", x.yields(1, 3), 3);
+        is("and so it is within A", x.yielded(0, 0), 2);
     }
 
     private static void context() {
