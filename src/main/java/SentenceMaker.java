@@ -1388,12 +1388,12 @@ public final class SentenceMaker {
      */
     private static final class Pairs {
         private static final int FRAMES = MOST_RULES * MOST_SIGNS;
-        private static final int MOST_PAIRS = FRAMES * MOST_RULES;
-        private static final int WORDS = MOST_PAIRS / 64;
+        static final int MOST_PAIRS = FRAMES * MOST_RULES;
+        static final int WORDS = MOST_PAIRS / 64;
 
         private final Grammar grammar;
         private final Cheapest cheapest;
-        private int madeAt = NONE;
+        int madeAt = NONE;
         int count;
         private int words;
         /** A triple is its first rule, place and second rule in one number. */
@@ -2086,9 +2086,9 @@ public final class SentenceMaker {
      */
     private static final class Chart {
         /** At most 31 nodes of a tree of 16 letters are no row of one symbol, each below at most seven that are. */
-        private static final int MOST_NODES = 256;
+        static final int MOST_NODES = 256;
+        static final int PLACES = MOST_TEXT + 1;
         private static final int NODE_CUTS = MOST_SIGNS + 1;
-        private static final int PLACES = MOST_TEXT + 1;
         private static final int MOST_STEPS = MOST_RULES * MOST_SIGNS;
         private static final int MOST_OPEN = 64;
 
