@@ -6,6 +6,9 @@ public final class PromisesTest {
     /** Rules: 0 A=AbA, 1 A=a. */
     private static final String AMBIGUOUS = "A=AbA|a;";
 
+    /** Each node that has letters, or two below it, has seven rows of one symbol above it. */
+    private static final String LONG = "A=B;B=C;C=D;D=E;E=F;F=G;G=H;H=AA|a;";
+
     private static final Check CHECK = new Check();
     private static String promise = "";
     private static SentenceMaker x = new SentenceMaker();
@@ -817,6 +820,11 @@ public final class PromisesTest {
         is("B=b", x.treeRule(0, 3, 0, 1), 2);
         is("C=A", x.treeRule(0, 3, 0, 2), 6);
         is("A=BC", x.treeRule(0, 3, 0, 3), 0);
+        Feeder.load(x, LONG);
+        is("the last rule of the longest tree", x.treeRule(0, 24, 0, 375), 8);
+        no("there are no more", x.treeRule(0, 24, 0, 376), 6);
+        is("its last letter", x.tree(0, 24, 0, 23), 0);
+        is("of one far behind", x.treeRule(0, 24, Integer.MAX_VALUE, 375), 8);
     }
 
     private static void text(String letters) {
@@ -907,6 +915,12 @@ public final class PromisesTest {
         no("parse(17)", x.parse(17), 1);
         no("parse(16)", x.parse(16), 5);
         is("parse(15)", x.parse(15), 15);
+        Feeder.load(x, LONG);
+        text("aaaaaaaaaaaaaaaa");
+        is("the longest tree", x.parse(16), 248);
+        is("its last rule", x.parsed(16, 247), 8);
+        is("its number", x.number(16), 0);
+        is("in how many ways", x.ways(16), 1000000);
     }
 
     private static void parsed() {
