@@ -60,8 +60,18 @@ final class Asker {
     private void answers(long want, int status, String name, Object... args) {
         SentenceMaker x = new SentenceMaker();
         setup.on(x);
+        leaveAnother(x, status);
         check.due(told(name, args), call(x, name, args), want);
         check.due(told(name, args) + " has the STATUS", x.status(), status);
+    }
+
+    /** Another STATUS than the one that is due, so that the call must set it. */
+    private static void leaveAnother(SentenceMaker x, int status) {
+        if (status == 1) {
+            x.rule(-1, 0);
+        } else {
+            x.many(-1);
+        }
     }
 
     /** The call is refused with that STATUS, and all else is as it was. */
@@ -93,10 +103,11 @@ final class Asker {
         check.holds(told(name, args) + " can be undone: " + difference, difference.isEmpty());
     }
 
-    /** The call has no STATUS: that of the call ahead of it stays, and so does all else. */
+    /** The call has no STATUS: that of the call ahead of it, which is 1, stays, and so does all else. */
     void tells(long want, String name, Object... args) {
         SentenceMaker x = new SentenceMaker();
         setup.on(x);
+        x.many(-1);
         int status = x.status();
         check.due(told(name, args), call(x, name, args), want);
         check.due(told(name, args) + " leaves the STATUS", x.status(), status);

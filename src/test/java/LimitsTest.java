@@ -517,6 +517,33 @@ public final class LimitsTest {
         is("COVER", x.many(9), 15 * 4 * 15);
     }
 
+    /** The last RULE has SYMBOLS in all its places; and the 65th PAIR is had as the others are. */
+    private static void lastPairs() {
+        load("A=a" + times("|AAAA", 15) + ";", 16);
+        is("PAIRS", x.many(8), 960);
+        is("the last one", x.pairOf(15, 3, 15), 959);
+        is("with A=a in each other place", x.pair(959, 5), 5);
+        int last = x.pairOf(15, 3, 0);
+        is("with A=a in each place", x.pair(last, 5), 4);
+        for (int place = 0; place < 4; place++) {
+            is("it HAS that in place " + place, x.has(last, x.pairOf(15, place, 0)), 1);
+        }
+        is("but not of another RULE", x.has(last, x.pairOf(14, 3, 0)), 0);
+        is("COVER", x.many(9), 15 * 4 * 15);
+        // aaaa by RULE 1 is taken, and so is nothing that goes with it: no other place of RULE 1, RULE 1 within no RULE;
+        // what is left are RULES 2 to 15 in the first place of RULE 1 and in each place of each of them
+        is("BOUND", x.bound(), 1 + 14 + 14 * 4 * 14);
+        load("A=BBBB|BBBB|cB;B=C|b|b|b|b|b|b;C=D;D=d;", 12);
+        is("PAIRS", x.many(8), 9 * 7 + 2);
+        is("the last one", x.pairOf(10, 0, 11), 64);
+        for (int p = 0; p < 63; p += 7) {
+            is("in a SENTENCE with B=C it is", x.has(p, 64), 1);
+            is("in one without it is not", x.has(p + 1, 64), 0);
+        }
+        is("PAIRS", x.pair(0, 5), 4 + 2);
+        is("in its own", x.has(64, 64), 1);
+    }
+
     /** PAIRS are numbered by the first RULE, the place, the second RULE. */
     private static void pairOrder() {
         load("B=CA|b;A=a|c;C=A|B;", 6);
@@ -552,6 +579,130 @@ public final class LimitsTest {
         load("A=BB:0|BB:0;B=b;", 3);
         is("the least RULE", x.context(1, 4), 0);
         is("the least place", x.context(1, 5), 0);
+    }
+
+    /** Eight SYMBOLS, each with the next in its one row, the last with a; the row is told with X for the next. */
+    private static void chain(String row, boolean upward) {
+        StringBuilder text = new StringBuilder();
+        for (int i = 0; i < 8; i++) {
+            int s = upward ? 7 - i : i;
+            String next = "" + (char) ('A' + s + 1);
+            text.append((char) ('A' + s)).append('=').append(s == 7 ? "a" : row.replace("X", next)).append(';');
+        }
+        load(text.toString(), 8);
+        if (upward) {
+            is("COME TO from H", x.many(5), 128);
+            is("start", x.start(0), 7);
+        }
+        is("GOOD", x.many(4), 255);
+        is("COME TO", x.many(5), 255);
+        is("USED", x.many(6), 255);
+    }
+
+    /** What goes from SYMBOL to SYMBOL goes through all eight, in whichever order they are told. */
+    private static void chains() {
+        for (boolean upward : new boolean[] {false, true}) {
+            chain("X", upward);
+            is("FIRST", x.ends(0, 0), 1);
+            is("LAST", x.ends(0, 1), 1);
+            is("COST", x.yields(0, 0), 9);
+            is("RULES", x.yields(0, 1), 8);
+            is("COST of the CONTEXT", x.context(7, 0), 7);
+            is("RULES of the CONTEXT", x.context(7, 1), 7);
+            is("PAIRS", x.many(8), 7);
+            is("all in one SENTENCE", x.pair(6, 5), 7);
+            is("COVER", x.many(9), 1);
+            is("BOUND", x.bound(), 1);
+            is("TREES", x.trees(0, 1), 1);
+            is("the last RULE of the tree", x.treeRule(0, 1, 0, 7), upward ? 0 : 7);
+            Feeder.put(x, "a");
+            is("OWN TREE", x.parse(1), 8);
+            is("its last RULE", x.parsed(1, 7), upward ? 0 : 7);
+            chain("Xi", upward);
+            is("FIRST", x.ends(0, 0), 1);
+            is("LAST", x.ends(0, 1), 1 << 8);
+            is("COST", x.yields(0, 0), 16);
+            is("LEFT", x.context(7, 2), 0);
+            is("RIGHT", x.context(7, 3), 7);
+            chain("iX", upward);
+            is("FIRST", x.ends(0, 0), 1 << 8);
+            is("LAST", x.ends(0, 1), 1);
+            is("LEFT", x.context(7, 2), 7);
+            is("RIGHT", x.context(7, 3), 0);
+            is("TREES", x.trees(0, 8), 1);
+            chain("iXX", upward);
+            no("no YIELD within 200", x.yields(0, 0), 6);
+            is("LAST", x.ends(0, 1), 1);
+            is("no TREES of 24 LETTERS", x.trees(0, 24), 0);
+            is("but of three levels", x.trees(5, 7), 1);
+        }
+    }
+
+    /** Of START nothing is about it, though there was something when another SYMBOL was START. */
+    private static void contextsAnew() {
+        load("A=aBb;B=cA|d;", 3);
+        is("LEFT", x.around(1, false, 0), 0);
+        is("RIGHT", x.around(1, true, 0), 1);
+        is("start", x.start(1), 0);
+        is("no LETTERS LEFT", x.context(1, 2), 0);
+        is("no LETTERS RIGHT", x.context(1, 3), 0);
+        no("none LEFT", x.around(1, false, 0), 6);
+        no("none RIGHT", x.around(1, true, 0), 6);
+        is("LEFT of A", x.around(0, false, 0), 2);
+        is("one LETTER", x.context(0, 2), 1);
+        is("none RIGHT of A", x.context(0, 3), 0);
+        is("undone", x.undo(), 1);
+        is("LEFT", x.context(1, 2), 1);
+        is("RIGHT", x.context(1, 3), 1);
+        load("A=aB|Bb:2;B=c;", 3);
+        is("LEFT", x.context(1, 2), 1);
+        is("RIGHT", x.context(1, 3), 0);
+        is("off", x.turn(0, false), 2);
+        is("LEFT", x.context(1, 2), 0);
+        is("RIGHT", x.context(1, 3), 1);
+        // a CONTEXT of a SYMBOL that has no YIELD
+        load("A=BC|c;B=bB;C=c|D;D=d;", 6);
+        is("COST", x.context(1, 0), 3);
+        is("RULES", x.context(1, 1), 2);
+        no("no YIELD", x.yields(1, 0), 6);
+    }
+
+    /** The one that has the most PAIRS that none has yet, of several that of the least PAIR. */
+    private static void coverOrder() {
+        load("A=BC|aD;B=b|Db;C=c|D;D=d|dd;", 8);
+        // dbc has PAIRS 1, 2, 6, then bd 0, 3, 8; then 4, 5, 7, 9 are left
+        int[] want = {1, 3, 4, 5, 7, 9};
+        int[] had = {3, 3, 1, 1, 3, 3};
+        is("COVER", x.many(9), want.length);
+        for (int k = 0; k < want.length; k++) {
+            is("PAIR of SENTENCE " + k, x.cover(k, 0), want[k]);
+            is("PAIRS of SENTENCE " + k, x.cover(k, 2), had[k]);
+            is("its own", x.cover(k, 3), 1);
+        }
+        int[] by = {1, 0, 0, 1, 2, 3, 0, 4, 1, 5};
+        for (int p = 0; p < by.length; p++) {
+            is("PAIR " + p + " by", x.by(p), by[p]);
+        }
+        is("BOUND", x.bound(), 4);
+        load("A=BCD|aD;B=b|bb|Eb;C=c|cc|Ec;D=d|E;E=e|Fe;F=f|ff|fE;", 15);
+        int[] longer = {11, 18, 5, 7, 1, 2, 4, 8, 13, 17, 20};
+        is("PAIRS", x.many(8), 21);
+        is("COVER", x.many(9), longer.length);
+        for (int k = 0; k < longer.length; k++) {
+            is("PAIR of SENTENCE " + k, x.cover(k, 0), longer[k]);
+        }
+        is("BOUND", x.bound(), 5);
+        is("one off", x.turn(14, false), 14);
+        is("PAIRS", x.many(8), 18);
+        // febcd, then 9 15 17 of affe, 0 5 12 of becd, 7 14 of bce, and the rest one by one
+        int[] without = {11, 5, 17, 7, 1, 2, 4, 8, 13};
+        is("COVER", x.many(9), without.length);
+        for (int k = 0; k < without.length; k++) {
+            is("PAIR of SENTENCE " + k, x.cover(k, 0), without[k]);
+        }
+        is("ON again", x.turn(14, true), 15);
+        is("COVER", x.many(9), longer.length);
+        is("PAIR of the last SENTENCE", x.cover(10, 0), 20);
     }
 
     /** A SENTENCE that was taken is left out, if others have all its PAIRS. */
@@ -608,6 +759,11 @@ public final class LimitsTest {
         is("more", x.trees(1, 13), MOST_TREES);
         Feeder.put(x, times("k", 12));
         is("NUMBER of the last one", x.number(12), MOST_TREES - 1);
+        // a third of one less by three, where nothing but the rest of a division tells that it is not too many
+        load("A=BD;B=BC|E;C=F|a;D=a|b|c;E=dE|D;F=D|D|D;", 13);
+        is("a third", x.trees(1, 12), 333333333333L);
+        is("one less", x.trees(0, 13), MOST_TREES - 1);
+        is("more", x.trees(0, 14), MOST_TREES);
         // of B there are just as many of twelve LETTERS, of G eight
         load("A=B|G;B=CCCC;C=DDD;D=E|a;E=F|F|F;F=a|b|c;G=HHH;H=llll|kkkk;", 15);
         is("just so many", x.trees(1, 12), MOST_TREES);
@@ -662,6 +818,102 @@ public final class LimitsTest {
         is("as it was", x.parse(16), 16);
     }
 
+    /** A part goes at the begin, at the end or within. */
+    private static void shrunkAtEachEnd() {
+        load("A=aA|b;", 2);
+        Feeder.put(x, "aaab");
+        is("the begin goes", x.shrink(4, 1), 1);
+        is("b stays", x.shrunk(4, 1, 0), 1);
+        load("A=Aa|b;", 2);
+        Feeder.put(x, "baaa");
+        is("the end goes", x.shrink(4, 1), 1);
+        is("b stays", x.shrunk(4, 1, 0), 1);
+        load("A=cBd;B=aB|a|bB;", 4);
+        Feeder.put(x, "cabaad");
+        is("within", x.shrink(6, 2), 3);
+        is("c", x.shrunk(6, 2, 0), 2);
+        is("a", x.shrunk(6, 2, 1), 0);
+        is("d", x.shrunk(6, 2, 2), 3);
+        // the first of the longest parts without which it is a SENTENCE: ba, at 2
+        is("by B=aB", x.shrink(6, 1), 4);
+        is("by B=bB", x.shrink(6, 3), 4);
+        is("b stays", x.shrunk(6, 3, 1), 1);
+    }
+
+    /** What was told of a grammar ahead of an ACT has no part in what is told behind it. */
+    private static void warm(SentenceMaker y) {
+        for (int what = 4; what <= 9; what++) {
+            y.many(what);
+        }
+        for (int s = 0; s < 8; s++) {
+            y.ends(s, 1);
+            y.yields(s, 2);
+            y.context(s, 3);
+            y.trees(s, 24);
+            y.tree(s, 3, 0, 0);
+            y.foretells(s, 0);
+        }
+        for (int p = 0; p < 4; p++) {
+            y.shown(p, 0);
+            y.pair(p, 5);
+            y.cover(p, 4);
+            y.wrong(p, 0, 0);
+        }
+        y.bound();
+        y.conflicts();
+        for (int n = 1; n <= 4; n++) {
+            y.number(n);
+            y.ways(n);
+            y.parse(n);
+            y.shrink(n, 0);
+        }
+    }
+
+    private static void act(SentenceMaker y, int which, Random random) {
+        switch (which) {
+            case 0:
+                y.turn(random.nextInt(16), false);
+                break;
+            case 1:
+                y.weigh(random.nextInt(16), random.nextInt(10));
+                break;
+            case 2:
+                y.start(random.nextInt(8));
+                break;
+            case 3:
+                y.undo();
+                break;
+            default:
+                Feeder.load(y, Grammars.make(random));
+                Feeder.put(y, "aaab");
+                break;
+        }
+    }
+
+    private static void askedBefore(int seed) {
+        for (int which = 0; which < 5; which++) {
+            int kind = which;
+            String[] told = new String[2];
+            for (int asked = 0; asked < 2; asked++) {
+                boolean ask = asked == 1;
+                told[asked] = Portrait.of(y -> {
+                    Random random = new Random(seed);
+                    for (int i = 0; i < 4 && y.many(0) == 0; i++) {
+                        Feeder.load(y, Grammars.make(random));
+                    }
+                    Feeder.put(y, "abab");
+                    y.turn(random.nextInt(16), false);
+                    if (ask) {
+                        warm(y);
+                    }
+                    act(y, kind, random);
+                });
+            }
+            String difference = Portrait.difference(told[0], told[1]);
+            CHECK.holds("seed " + seed + ", act " + which + ": asked before: " + difference, difference.isEmpty());
+        }
+    }
+
     /** An object is used for 512 calls: the last one is answered as the first. */
     private static void lastCall() {
         x = new SentenceMaker();
@@ -698,13 +950,21 @@ public final class LimitsTest {
         costOfContexts();
         costOfPairs();
         mostPairs();
+        lastPairs();
         pairOrder();
         sameCost();
+        chains();
+        contextsAnew();
+        coverOrder();
         leftOut();
         wrongs();
         mostTrees();
         mostWays();
         shrunk();
+        shrunkAtEachEnd();
+        for (int seed = 0; seed < 200; seed++) {
+            askedBefore(seed);
+        }
         lastCall();
         CHECK.close("LimitsTest");
     }

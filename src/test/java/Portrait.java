@@ -92,9 +92,12 @@ final class Portrait {
             tell("beside " + letter, x.beside(letter));
         }
         for (int s = 0; s < 8; s++) {
-            tell("ends " + s, x.ends(s, 0));
+            tell("FIRST " + s, x.ends(s, 0));
+            tell("LAST " + s, x.ends(s, 1));
             tell("yields " + s, x.yields(s, 0));
             tell("context " + s, x.context(s, 0));
+            tell("LEFT " + s, x.context(s, 2));
+            tell("RIGHT " + s, x.context(s, 3));
         }
     }
 
@@ -136,7 +139,7 @@ final class Portrait {
         }
     }
 
-    /** Each byte of a grammar's text is seen when it is loaded; of another one, that all ahead of its fault is as it was. */
+    /** Each byte of a grammar's text is seen when it is loaded; of another text, all that stands ahead of its FAULT. */
     private void tellTape() {
         int taped = x.drop(0);
         tell("load", x.load(taped));

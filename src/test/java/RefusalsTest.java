@@ -71,7 +71,7 @@ public final class RefusalsTest {
 
     private static void status() {
         ASK.begin(2, RefusalsTest::small);
-        ASK.tells(0, "status");
+        ASK.tells(1, "status");
         Portrait.Setup[] refused = {x -> x.many(11), x -> x.rule(4, 0), x -> x.turn(0, true), x -> x.ways(5),
             x -> x.sign(0, 2), x -> x.parse(2)};
         int[] want = {1, 2, 3, 1, 6, 5};
@@ -129,6 +129,33 @@ public final class RefusalsTest {
             CHECK.due("promise 3: behind " + bytes, x.feed(0, 0, 0, 0, 0), bytes + 20);
             CHECK.due("promise 3: so many there are", x.drop(0), bytes + 20);
         }
+    }
+
+    /** Of twenty bytes each is seen in its place, as it is: a LETTER and 128 is none. */
+    private static void fedBytes() {
+        String text = "A=abcd|efgh|ijkl|mn;";
+        SentenceMaker x = new SentenceMaker();
+        x.feed(0x413d6162, 0x63647c65, 0x6667687c, 0x696a6b6c, 0x7c6d6e3b);
+        CHECK.due("promise 3: all twenty", x.load(20), 4);
+        for (int i = 0; i < 14; i++) {
+            CHECK.due("promise 3: LETTER " + i, x.sign(i / 4, i % 4), 16 + i);
+        }
+        for (int at = 0; at < 20; at++) {
+            char[] bytes = text.toCharArray();
+            bytes[at] += 128;
+            Feeder.feed(x, new String(bytes));
+            CHECK.due("promise 3: load of byte " + (int) bytes[at], x.load(20), NONE);
+            CHECK.due("promise 3: its FAULT", x.fault(0), 1);
+            CHECK.due("promise 3: its place", x.fault(1), at);
+        }
+        x.feed(-1, -1, -1, -1, -1);
+        CHECK.due("promise 3: bytes 255", x.load(20), NONE);
+        CHECK.due("promise 3: FAULT of 255", x.fault(0), 1);
+        CHECK.due("promise 3: place of 255", x.fault(1), 0);
+        Feeder.put(x, "A=a|");
+        x.feed(0x62633b42, 0x3d643b20, 0x20202020, 0x20202020, 0x20202020);
+        CHECK.due("promise 3: they come behind those on the tape", x.load(24), 3);
+        CHECK.due("promise 3: the second RULE", x.rule(1, 1), 2);
     }
 
     private static void load() {
@@ -1059,6 +1086,7 @@ public final class RefusalsTest {
         newObject();
         status();
         feed();
+        fedBytes();
         load();
         faultyLoad();
         fault();
