@@ -1,3 +1,4 @@
+import java.io.IOException;
 import java.lang.reflect.Constructor;
 import java.lang.reflect.Field;
 import java.lang.reflect.Method;
@@ -24,6 +25,12 @@ public final class LanguageTest {
             "int conflicts()", "int bound()", "long trees(int,int)", "int tree(int,int,int,int)",
             "int treeRule(int,int,int,int)", "long number(int)", "int ways(int)", "int parse(int)",
             "int parsed(int,int)", "int shrink(int,int)", "int shrunk(int,int,int)", "int drop(int)");
+
+    /** What the class uses of what LANGUAGE.md lists. */
+    private static final List<String> LIBRARY = List.of("java/lang/Object.<init>", "java/lang/Math.min",
+            "java/lang/Math.max", "java/lang/Integer.bitCount", "java/lang/Integer.numberOfTrailingZeros",
+            "java/lang/Long.bitCount", "java/lang/Long.numberOfTrailingZeros", "java/lang/System.arraycopy",
+            "java/util/Arrays.fill");
 
     private static final Check CHECK = new Check();
 
@@ -105,14 +112,44 @@ public final class LanguageTest {
         }
     }
 
-    /** Rows are made with the object, not in calls: new stands where fields and constructors stand. */
-    private static void making(String code) {
-        Matcher made = Pattern.compile("[^\n]*\\bnew\\b[^\n]*").matcher(code);
-        while (made.find()) {
-            String row = made.group().trim();
-            CHECK.holds("made with the object: " + row, row.startsWith("private final") || row.startsWith("final")
-                    || row.matches("(history|made|lefts|rights)\\[\\w+] = new \\w+\\(\\);"));
+    private static void compiled() throws IOException {
+        CallGraph graph = new CallGraph();
+        graph.add(ClassFile.of(SentenceMaker.class));
+        for (Class<?> type : SentenceMaker.class.getDeclaredClasses()) {
+            graph.add(ClassFile.of(type));
         }
+        CHECK.holds("no method comes back to itself: " + graph.endless(), graph.endless().isEmpty());
+        if (graph.endless().isEmpty()) {
+            depths(graph);
+        }
+        for (String outside : graph.outside()) {
+            CHECK.holds("the library has " + outside, LIBRARY.contains(outside.substring(0, outside.indexOf('('))));
+        }
+        // rows are made with the object, so that calls take no room
+        for (String maker : graph.makers()) {
+            CHECK.holds("nothing is made in " + maker, maker.contains("<init>"));
+        }
+        CHECK.holds("something is made in constructors", !graph.makers().isEmpty());
+    }
+
+    private static void depths(CallGraph graph) {
+        CHECK.holds("there are methods and calls to look at", graph.methods().size() > 200
+                && graph.longestWay("SentenceMaker.bound()I").size() > 4);
+        for (String method : graph.methods()) {
+            List<String> way = graph.longestWay(method);
+            CHECK.holds("calls go at most eight deep: " + way, way.size() <= 8);
+        }
+    }
+
+    /** All that the calls of one run make has one room: many objects of the class must fit in it. */
+    private static void room() throws IllegalAccessException {
+        Room room = new Room();
+        room.add(new SentenceMaker());
+        CHECK.holds("one has its parts", room.objects() > 50 && room.elements() > 1000);
+        CHECK.holds("two hundred have at most 600,000 objects and arrays: " + room.objects(),
+                200 * room.objects() <= 600000);
+        CHECK.holds("two hundred have at most 7,300,000 fields and elements: " + room.elements(),
+                200 * room.elements() <= 7300000);
     }
 
     private static void lengths(String source) {
@@ -137,7 +174,8 @@ public final class LanguageTest {
         face();
         classes();
         words(bare(source));
-        making(bare(source));
+        compiled();
+        room();
         lengths(source);
         CHECK.close("LanguageTest");
     }
